@@ -13,6 +13,22 @@ final class Texts {
         return x;
     }
 
+    /** An editor without balancing and with leaves of 2, whose text has 9 characters where 13 would be due. */
+    static TextRopes unbalanced() {
+        TextRopes x = new TextRopes();
+        x.setBalancing(0);
+        unbalance(x);
+        return x;
+    }
+
+    /** Leaves of two and of one characters in turn, which do not join, come under one another. */
+    static void unbalance(TextRopes x) {
+        x.setLeafSize(2);
+        for (String piece : new String[] {"ab", "c", "de", "f", "gh", "i"}) {
+            insert(x, x.length(), piece);
+        }
+    }
+
     static void type(TextRopes x, String text) {
         for (int i = 0; i < text.length(); i++) {
             x.type(text.charAt(i));
