@@ -535,10 +535,11 @@ public final class TextRopes {
         private final int[] height = new int[NODES];
         private final long[] lowCodes = new long[NODES];
         private final long[] highCodes = new long[NODES];
-        private final boolean[] used = new boolean[NODES];
-        private final int[] waiting = new int[MOST_CHARACTERS];
+        // What the last collection reached; all below next has been given out, all others are free.
+        private final boolean[] reached = new boolean[NODES];
         private int next = 1;
         private int free = NODES - 1;
+        private final int[] waiting = new int[MOST_CHARACTERS];
 
         boolean isLeaf(int rope) {
             return rope > EMPTY && rope < NODES && left[rope] == EMPTY;
@@ -626,20 +627,18 @@ public final class TextRopes {
 
         private int freshNode() {
             for (int node = Math.max(next, 1); node < NODES; node++) {
-                if (!used[node]) {
-                    used[node] = true;
+                if (!reached[node]) {
                     next = node + 1;
                     free--;
                     return node;
                 }
             }
-            next = NODES;
             return EMPTY;
         }
 
         void startCollection() {
             for (int node = 0; node < NODES; node++) {
-                used[node] = false;
+                reached[node] = false;
             }
         }
 
@@ -647,8 +646,8 @@ public final class TextRopes {
             int node = rope;
             int count = 0;
             for (int seen = 0; seen < 2 * NODES; seen++) {
-                if (node > EMPTY && node < NODES && !used[node]) {
-                    used[node] = true;
+                if (node > EMPTY && node < NODES && !reached[node]) {
+                    reached[node] = true;
                     if (count < waiting.length) {
                         waiting[count] = right[node];
                         count++;
@@ -666,7 +665,7 @@ public final class TextRopes {
         void endCollection() {
             free = 0;
             for (int node = 1; node < NODES; node++) {
-                if (!used[node]) {
+                if (!reached[node]) {
                     free++;
                 }
             }

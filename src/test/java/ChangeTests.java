@@ -395,7 +395,12 @@ public final class ChangeTests {
         x.copy(7, 8);
         CHECK.due("400 occurrences", x.replaceAll(), 400);
         CHECK.due("text", Texts.textOf(x), Texts.repeated("a", 400));
-        CHECK.due("replaceAll() in an empty text", x.delete(0, 400) + x.replaceAll(), 0);
+        x = Texts.holding("b" + Texts.repeated("a", 40));
+        x.copy(0, 1);
+        Texts.type(x, Texts.repeated("a", 40));
+        CHECK.due("a full buffer", x.replaceAll(), 1);
+        CHECK.due("text", Texts.textOf(x), "bb");
+        CHECK.due("replaceAll() in an empty text", x.delete(0, 2) + x.replaceAll(), 0);
     }
 
     private static void build() {

@@ -11,6 +11,8 @@ public final class DeepTests {
         deepOnTheLeft();
         deepOnTheRight();
         everythingKeptOutlivesCollections();
+        savedStatesOutliveCollections();
+        largeLeavesInNodesUsedAgain();
         manyReplacements();
         rightAfterManyCalls();
         CHECK.end();
@@ -101,6 +103,46 @@ public final class DeepTests {
         for (int i = 0; i < 60; i++) {
             both.move(i, i + 2, both.m.length() - 2 - i);
             both.undo();
+        }
+    }
+
+    /** All six saved states, the oldest one with nodes of its own, while one call collects many times. */
+    private static void savedStatesOutliveCollections() {
+        CHECK.promise("saved states outlive collections");
+        Both both = spine(true);
+        both.copy(0, 1);
+        both.type("a");
+        for (int round = 0; round < 5; round++) {
+            both.pack();
+            both.replaceAll();
+            both.setMark(round % 4, 7 * round);
+            both.move(100, 110, round);
+            both.setLeafSize(2 + round);
+            both.replaceAll();
+            for (int i = 0; i < 6; i++) {
+                both.undo();
+            }
+            both.move(3, 5, 200 + round);
+        }
+    }
+
+    private static void largeLeavesInNodesUsedAgain() {
+        CHECK.promise("leaves of 16 characters in nodes that are used again");
+        Both both = new Both(CHECK);
+        both.setLeafSize(16);
+        for (int i = 0; i < 10; i++) {
+            both.type("ab~a\nc" + (char) ('A' + i) + "adaeafagahaiajakalamanaoapaqara");
+            both.insert(both.m.length());
+        }
+        both.copy(0, 1);
+        both.type("a");
+        for (int i = 0; i < 12; i++) {
+            both.replaceAll();
+            both.pack();
+            both.move(7 * i, 7 * i + 30, 5);
+        }
+        for (int position = 0; position <= both.m.length(); position++) {
+            both.askAt(position);
         }
     }
 

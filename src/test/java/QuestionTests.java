@@ -212,6 +212,11 @@ public final class QuestionTests {
         Texts.insert(x, 0, "aabaacaab");
         Texts.type(x, "aacaab");
         CHECK.due("find(0) over leaves", x.find(0), 3);
+        x = Texts.holding("b" + Texts.repeated("a", 39) + "c");
+        Texts.type(x, Texts.repeated("a", 39) + "c");
+        CHECK.due("find(0) with a full buffer", x.find(0), 1);
+        CHECK.due("find(1) with a full buffer", x.find(1), 1);
+        CHECK.due("find(2) with a full buffer", x.find(2), TextRopes.NONE);
     }
 
     private static void lines() {
