@@ -673,7 +673,7 @@ public final class TextRopes {
         }
     }
 
-    /** Joins, splits and builds ropes; no call of its own goes down a rope, for ropes may be 399 deep. */
+    /** Joins, splits and builds ropes. Only built() calls itself: a rope may be too deep for a split that does. */
     private static final class Weaver {
         private final Nodes nodes = new Nodes();
         private final int[] path = new int[MOST_CHARACTERS];
