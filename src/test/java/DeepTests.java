@@ -14,6 +14,7 @@ public final class DeepTests {
         savedStatesOutliveCollections();
         largeLeavesInNodesUsedAgain();
         manyReplacements();
+        nodesAreUsedAgainAndAgain();
         rightAfterManyCalls();
         CHECK.end();
     }
@@ -167,6 +168,18 @@ public final class DeepTests {
         both.undo();
         both.setBalancing(1);
         both.replaceAll();
+        both.askAboutText();
+    }
+
+    /** What was reached once is free later on: these calls make and drop far more nodes than there are. */
+    private static void nodesAreUsedAgainAndAgain() {
+        CHECK.promise("nodes that nothing reaches any more are used again");
+        Both both = spine(true);
+        both.type("a");
+        for (int i = 0; i < 30; i++) {
+            both.replaceAll();
+            both.undo();
+        }
         both.askAboutText();
     }
 
